@@ -1216,7 +1216,10 @@ public final class BottleBefore {
                     joint = a | b;
                     break;
             }
-            return (int) Math.max(-BOUND, Math.min(BOUND, joint));
+            if (joint > BOUND) {
+                return BOUND;
+            }
+            return joint < -BOUND ? -BOUND : (int) joint;
         }
     }
 
@@ -1357,9 +1360,11 @@ public final class BottleBefore {
 
         /** The visit of a guest who is there: what it brought (NONE: handed on). */
         int receive(int guest) {
-            int joy = gladness(guest);
-            int brought = wouldBring(guest, cells[BOTTLE]);
-            cells[MOOD + guest] = moodBehind(cells[MOOD + guest], joy);
+            int like = house.likes[guest];
+            int mood = cells[MOOD + guest];
+            int joy = house.joyBy(like, cells[BOTTLE]);
+            int brought = brings(like, mood, cells[MONEY + guest], cells[VISITS], cells[BOTTLE]);
+            cells[MOOD + guest] = moodBehind(mood, joy);
             cells[JOY + guest] += joy;
             cells[VISITS]++;
             if (brought != NONE) {
