@@ -655,7 +655,6 @@ public final class BottleBefore {
         private int number;
 
         void start() {
-            awaits = CLAUSE;
             rulesTold = 0;
             drinksTold = 0;
             guestsTold = 0;

@@ -264,6 +264,8 @@ public final class ActsTest {
         Due.due(16, "years(-1)", x.years(-1, 1L), NONE);
         Due.due(16, "count(13), as refused", x.count(13), 0);
         x.snow(0);
+        Due.due(16, "years(1), no snow", x.years(1, 9L), 1);
+        Due.due(16, "count(13)", x.count(13), 1);
         Due.due(16, "years(60), no snow", x.years(60, 9L), 60);
         Due.due(16, "count(13), 40 at most", x.count(13), 40);
         Due.due(16, "years(1) without a house", new BottleBefore().years(1, 1L), NONE);

@@ -207,6 +207,9 @@ public final class LooksTest {
         Due.due(29, "serve(0, -1)", x.serve(0, -1), NONE);
         Due.due(29, "serve(0, 100)", x.serve(0, 100), NONE);
         Due.due(29, "serve(0, 99)", x.serve(0, 99), 1);
+        BottleBefore later = Due.holding(Due.house("sj0;dq5p0;dq9p0;g"), "y:n=0&q=9?h;y:n>0&q=5?h;y:9");
+        later.visit(0);
+        Due.due(29, "serve(0, 0), VISITS ahead as 0", later.serve(0, 0), 1);
         Due.due(29, "serve(1, 0)", x.serve(1, 0), NONE);
         Due.due(29, "serve(-1, 0)", x.serve(-1, 0), NONE);
     }
@@ -263,6 +266,11 @@ public final class LooksTest {
         Due.due(32, "rests(1, 1, NONE)", x.rests(1, 1, NONE), NONE);
         Due.due(32, "rests(0, 3, NONE)", x.rests(0, 3, NONE), NONE);
         Due.due(32, "rests(-1, 0, NONE)", x.rests(-1, 0, NONE), NONE);
+        x.price(0, 0);
+        Due.due(32, "rests(0, 1, NONE), all alike", x.rests(0, 1, NONE), 9);
+        Due.due(32, "rests(0, 1, 0), all alike", x.rests(0, 1, 0), 0);
+        Due.due(32, "rests(0, 1, 8), all alike", x.rests(0, 1, 8), 22);
+        x.price(0, 3);
         x.price(2, 3);
         Due.due(32, "rests(0, 1, NONE), PRICE as it is", x.rests(0, 1, NONE), 1);
         Due.due(32, "rests(0, 1, 0)", x.rests(0, 1, 0), 11);

@@ -94,6 +94,8 @@ public final class TextsTest {
         fault(0, "dq5p5q5", 5);
         fault(0, "dm5", 1);
         fault(0, "gl5", 3);
+        fault(0, "gl5;sb5;d;d;d;d;d;d", NONE);
+        fault(0, "gl5;d;d;d;d;d", 13);
         fault(0, "gl6", 2);
         fault(0, "gl66", 3);
         fault(0, "gl666", 4);
