@@ -229,13 +229,20 @@ public final class BottleBefore {
         for (int i = 0; i < n; i++) {
             x = stirred(x);
             if (drawn(x, SNOW_DRAW) < snowiness) {
-                act(MONTH_STEP, 0);
+                snowedIn();
             } else {
                 x = stirred(x);
                 act(GUEST_STEP, drawn(x, house.guests));
             }
         }
         return table.visits() - before;
+    }
+
+    private void snowedIn() {
+        // Each year is one act, also the one by which nothing changes: it is undone as the others are.
+        if (!act(MONTH_STEP, 0)) {
+            memory.keep(table.cells);
+        }
     }
 
     public int undo() {

@@ -174,6 +174,36 @@ public final class ActsTest {
         Due.due(16, "years, no MONTH goes by", x.count(7), 999);
         Due.due(16, "VISITS by them", x.count(6), visits);
         Due.due(13, "the HOST can't again", x.host(0) || x.host(1), false);
+        yearsAtTheLastMonth(x);
+    }
+
+    /** By seed 0 the first draws of 10 are below 9: nobody comes. */
+    private static void yearsAtTheLastMonth(BottleBefore x) {
+        int visits = x.image();
+        x.back();
+        int bottle = x.rule(0);
+        Due.due(16, "years(1), no MONTH can go by", x.years(1, 0L), 0);
+        Due.due(16, "it is one ACT", x.count(13), 1);
+        Due.due(16, "MONTH", x.count(7), 999);
+        Due.due(17, "undo(), nothing changes", x.undo(), 0);
+        Due.due(17, "undo(), none", x.undo(), NONE);
+        Due.due(17, "MONTH", x.count(7), 999);
+        Due.due(17, "the HOST put", x.count(11), 1);
+        int more = x.years(30, 0L);
+        Due.due(16, "some come, some don't", more > 0 && more < 30, true);
+        Due.due(16, "VISITS", x.count(6), visits + more);
+        Due.due(16, "each of 30 is one ACT", x.count(13), 30);
+        for (int left = 29; left >= 0; left--) {
+            Due.due(17, "undo() of 30", x.undo(), left);
+        }
+        Due.due(17, "VISITS", x.count(6), visits);
+        Due.due(17, "the BOTTLE", x.rule(0), bottle);
+        x.years(60, 0L);
+        Due.due(16, "40 at most", x.count(13), 40);
+        x.back();
+        Due.due(12, "month() that can't be is no ACT", x.month(), NONE);
+        Due.due(21, "perform(0)", x.perform(0), 0);
+        Due.due(43, "count(13)", x.count(13), 0);
     }
 
     private static void hosts() {

@@ -457,7 +457,8 @@ final class Model {
         int visits = 0;
         for (int i = 0; i < n; i++) {
             if (draw(x, 10) < snow) {
-                act("m");
+                keep(now.copy());
+                pass(now);
             } else {
                 act("g" + draw(x, guests));
                 visits++;

@@ -179,8 +179,10 @@ public final class ModelTest {
     }
 
     private void runOfCalls() {
+        boolean late = below(8) == 0;
         for (int i = 0; i < CALLS && wrong == 0; i++) {
-            if (i == 0 || below(80) == 0) tell(0, below(10) == 0 ? marred(house()) : house());
+            if (i == 5 && late) lastMonths();
+            else if (i == 0 || below(80) == 0) tell(0, below(10) == 0 ? marred(house()) : house());
             else if (i < 5 || below(100) == 0) tell(1 + i % 2, i % 2 == 0 ? law() : winter());
             else if (below(20) == 0) rare();
             else if (below(3) == 0) acts();
@@ -188,6 +190,18 @@ public final class ModelTest {
             else searches();
         }
         for (int i = 0; i < 14; i++) due("count " + i, x.count(i), m.count(i));
+    }
+
+    /** Years enough that hardly a MONTH is left, if any. */
+    private void lastMonths() {
+        due("snow 9", x.snow(9), m.snow(9));
+        for (int i = 17 + below(3); i > 0; i--) {
+            long seed = draw.nextLong();
+            due("years 60", x.years(60, seed), m.years(60, seed));
+        }
+        if (below(2) == 0) due("image", x.image(), m.image());
+        if (below(2) == 0) due("back", x.back(), m.back());
+        due("count 13", x.count(13), m.count(13));
     }
 
     private int index(int most) {
