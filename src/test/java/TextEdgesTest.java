@@ -112,7 +112,8 @@ public final class TextEdgesTest {
         for (String order : new String[] {"l1m2h3", "l1h3m2", "m2l1h3", "m2h3l1", "h3l1m2", "h3m2l1"}) {
             asked("d;d;g" + order, x -> x.guest(0, 0) * 100 + x.guest(0, 1) * 10 + x.guest(0, 2), 123);
         }
-        asked("dq1p2;dp4q3;g", x -> x.drink(0, 0) * 1000 + x.drink(0, 1) * 100 + x.drink(1, 0) * 10 + x.drink(1, 1), 1234);
+        asked("dq1p2;dp4q3;g", x -> x.drink(0, 0) * 10 + x.drink(0, 1), 12);
+        asked("dq1p2;dp4q3;g", x -> x.drink(1, 0) * 10 + x.drink(1, 1), 34);
         Said.said(Said.TERMS, "a letter that was there");
         fault(HOUSE, "sb1b1;d;d;g", 3);
         fault(HOUSE, "sw1b1w1;d;d;g", 5);
@@ -178,8 +179,8 @@ public final class TextEdgesTest {
         for (int drinks = 2; drinks <= 6; drinks++) {
             for (int v = 0; v <= 5; v++) {
                 String d = ";d".repeat(drinks);
-                String[] texts = {"sb" + v + ";g" + d, "g;sb" + v + d, "gl" + v + d, "g;gl" + v + d, "gl" + v + ";g" + d};
-                for (String text : texts) {
+                for (String clauses : new String[] {"sb#;g", "g;sb#", "gl#", "g;gl#", "gl#;g"}) {
+                    String text = clauses.replace("#", "" + v) + d;
                     fault(HOUSE, text, v < drinks ? NONE : text.length());
                 }
             }
@@ -207,7 +208,12 @@ public final class TextEdgesTest {
         goesOn(HOUSE, "dq1", "", "p; ");
         goesOn(HOUSE, "dq0", "", DIGITS + "p; ");
         goesOn(HOUSE, "dq1p1", "", DIGITS + "; ");
+        goesOn(HOUSE, "dp1;", "", "sdg ");
+        goesOn(HOUSE, "dp1;s", "", "bwj; ");
+        goesOn(HOUSE, "dp1;d", "", "qp; ");
+        goesOn(HOUSE, "dp1;g", "", "lmh; ");
         goesOn(HOUSE, "d;d;g", " ", "lmh;");
+        goesOn(HOUSE, "d;d;gm1;g", " ", "lmh;");
         goesOn(HOUSE, "d;d;gl", "01", "2345 ");
         goesOn(HOUSE, "d;d;gl0", "01 ", "2345mh;");
         goesOn(HOUSE, "d;d;gm9", DIGITS + " ", "lh;");
@@ -245,6 +251,10 @@ public final class TextEdgesTest {
         goesOn(LAW, "", "", "y ");
         goesOn(LAW, "y", "", ": ");
         goesOn(LAW, "y:1;", "", "y ");
+        goesOn(LAW, "y:1;y", "", ": ");
+        goesOn(LAW, "y:1;y:", "qhlmnp" + DIGITS, "[!( ");
+        goesOn(LAW, "y:1=1?1;", "", "y ");
+        goesOn(LAW, "y:1=1?1;y:q", " ", "+-*/=<>;");
         goesOn(LAW, "y:1=1?", "qhlmnp" + DIGITS, "[ ");
         goesOn(LAW, "y:1=1?1", DIGITS + " ", "+-*/;");
         goesOn(LAW, "y:(1=1)?", "qhlmnp" + DIGITS, "[ ");
@@ -453,6 +463,10 @@ public final class TextEdgesTest {
             Said.is("its digit", x.step(0, 0, 1) * 10 + x.step(1, 0, 1), digit * 11);
             Said.is("run(0, 0) of g" + digit, x.run(0, 0), digit < 2 ? NONE : 0);
             Said.is("run(1, 0) of h" + digit, x.run(1, 0), digit < 3 && digit != 1 ? NONE : 0);
+            Said.is("perform(1) of h" + digit, x.perform(1), digit < 3 && digit != 1 ? 1 : 0);
+            Said.is("perform(0) of g" + digit, x.perform(0), digit < 2 ? 1 : 0);
+            Said.is("VISITS", x.count(6), digit < 2 ? 1 : 0);
+            Said.is("no MONTH", x.count(7), 0);
         }
     }
 
