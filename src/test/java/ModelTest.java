@@ -3,15 +3,19 @@ import java.util.Random;
 
 /** Runs of drawn calls (the seeds are fixed) on the class and on the Model: every answer must be the same. */
 public final class ModelTest {
-    private static final int RUNS = 700;
-    private static final int CALLS = 500;
+    private static final int RUNS = 1200;
+    // An object is used for 512 calls: the last round may take 60 more, and the looks at the end 14.
+    private static final int CALLS = 430;
     private static final int TEXTS = 60000;
+    // A text takes at most 16 calls: end, twelve feeds, three faults.
+    private static final int TEXTS_OF_ONE = 32;
 
     private final Random draw;
     private final BottleBefore x = new BottleBefore();
     private final Model m = new Model();
     private final StringBuilder told = new StringBuilder();
     private int wrong;
+    private int calls;
 
     private ModelTest(long seed) {
         // Seeds side by side would draw nearly the same first numbers.
@@ -35,8 +39,9 @@ public final class ModelTest {
 
     private static int texts() {
         int wrong = 0;
-        ModelTest t = new ModelTest(77);
+        ModelTest t = null;
         for (int i = 0; i < TEXTS && wrong < 5; i++) {
+            if (i % TEXTS_OF_ONE == 0) t = new ModelTest(RUNS + i);
             String text = t.marred(t.anyText());
             t.x.end(0);
             t.m.end(0);
@@ -161,6 +166,7 @@ public final class ModelTest {
     // ---- calls
 
     private void due(String call, long got, long want) {
+        calls++;
         if (got != want) {
             wrong++;
             told.append(call).append(" answered ").append(got).append(", due is ").append(want).append('\n');
@@ -180,7 +186,7 @@ public final class ModelTest {
     }
 
     private void runOfCalls(boolean late) {
-        for (int i = 0; i < CALLS && wrong == 0; i++) {
+        for (int i = 0; calls < CALLS && wrong == 0; i++) {
             if (i == 5 && late) lastMonths();
             else if (i == 0 || below(80) == 0) tell(0, below(10) == 0 ? marred(house()) : house());
             else if (i < 5 || below(100) == 0) tell(1 + i % 2, i % 2 == 0 ? law() : winter());
@@ -190,6 +196,10 @@ public final class ModelTest {
             else searches();
         }
         for (int i = 0; i < 14; i++) due("count " + i, x.count(i), m.count(i));
+        if (calls > 512) {
+            wrong++;
+            told.append(calls).append(" calls of one object\n");
+        }
     }
 
     /** Years enough that hardly a MONTH is left, if any. */

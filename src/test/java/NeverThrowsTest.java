@@ -6,21 +6,27 @@ import java.util.NoSuchElementException;
 public final class NeverThrowsTest {
     private static final int[] NUMBERS = {
         Integer.MIN_VALUE, -1000000, -2, -1, 0, 1, 2, 5, 6, 9, 60, 99, 240, 1000, Integer.MAX_VALUE};
+    // An object is used for 512 calls; a full one is made by some 100.
+    private static final int CALLS = 400;
     private static int wrong;
     private static int calls;
 
     public static void main(String[] args) throws IllegalAccessException {
         for (Method m : BottleBefore.class.getDeclaredMethods()) {
             if (java.lang.reflect.Modifier.isPublic(m.getModifiers())) {
-                tryAll(new BottleBefore(), m);
-                tryAll(Due.house("d;d;g"), m);
-                tryAll(full(), m);
+                for (int kind = 0; kind < 3; kind++) {
+                    tryAll(kind, m);
+                }
             }
         }
         System.out.println(calls + " calls, " + wrong + " threw what they must not");
         if (wrong != 0) {
             System.exit(1);
         }
+    }
+
+    private static BottleBefore made(int kind) {
+        return kind == 0 ? new BottleBefore() : kind == 1 ? Due.house("d;d;g") : full();
     }
 
     private static BottleBefore full() {
@@ -39,13 +45,17 @@ public final class NeverThrowsTest {
         return x;
     }
 
-    private static void tryAll(BottleBefore x, Method m) throws IllegalAccessException {
+    private static void tryAll(int kind, Method m) throws IllegalAccessException {
         int many = m.getParameterCount();
         int all = 1;
         for (int i = 0; i < Math.min(many, 3); i++) {
             all *= NUMBERS.length;
         }
+        BottleBefore x = made(kind);
         for (int k = 0; k < all; k++) {
+            if (k % CALLS == CALLS - 1) {
+                x = made(kind);
+            }
             Object[] args = new Object[many];
             int rest = k;
             for (int i = 0; i < many; i++) {
