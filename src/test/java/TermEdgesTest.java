@@ -691,13 +691,14 @@ public final class TermEdgesTest {
     }
 
     private static void fits() {
-        Said.said(TERMS, "by which all SEEN of it is so (the WISH by MOOD behind the drinking, as told)");
+        Said.said(TERMS, "10 times the DRINK that it LIKES and MOOD 0 .. 9 ahead of each of these VISITS");
         for (int drinks = 2; drinks <= 6; drinks++) {
             BottleBefore x = Due.house("g;g" + ";d".repeat(drinks));
             Said.is("fits(1, NONE), nothing SEEN", x.fits(1, NONE), 10 * drinks);
             Said.is("fits(1, last)", x.fits(1, 10 * drinks - 1), 10 * drinks - 1);
             Said.is("fits(1, beyond)", x.fits(1, 10 * drinks), NONE);
         }
+        Said.said(TERMS, "by which all SEEN of it is so (the WISH by MOOD behind the drinking, as told)");
         // It brings 9, if MOOD behind it is 9: got 9, ahead of it 8 or 9; got 5, 9 alone; got 0, none.
         BottleBefore x = Due.holding(Due.house("sj0;dq9p0;dq5p0;dq0p0;g"), "y:h=9?9;y:0");
         x.seen(0, 0, 0, 0);
