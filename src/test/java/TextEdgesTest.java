@@ -267,6 +267,19 @@ public final class TextEdgesTest {
         goesOn(LAW, "y:q", " ", "+-*/=<>;");
         goesOn(LAW, "y:1", DIGITS + " ", "+-*/=<>;");
         goesOn(LAW, "y:1234", " ", "+-*/=<>;");
+        // Within [ ] a SUM alone stands, also in a CONDITION that compares already.
+        goesOn(LAW, "y:q=[", "", "qhlmnp[ " + DIGITS);
+        goesOn(LAW, "y:q=[q", "", "+-*/] ");
+        goesOn(LAW, "y:q=[q]", "", "+-*/&|? ");
+        goesOn(LAW, "y:(q=[q", "", "+-*/] ");
+        goesOn(LAW, "y:(q=[q]", "", "+-*/&|) ");
+        goesOn(LAW, "y:([q", "", "+-*/] ");
+        goesOn(LAW, "y:([q]", "", "+-*/=<> ");
+        goesOn(LAW, "y:![q]", "", "+-*/=<> ");
+        goesOn(LAW, "y:q=q&[q", "", "+-*/] ");
+        goesOn(LAW, "y:(q=q)|[q]", "", "+-*/=<> ");
+        goesOn(LAW, "y:q=q?[q", "]", "+-*/ ");
+        goesOn(LAW, "y:q=q?[q]", " ", "+-*/;");
         Said.said(Said.TERMS, "SUM: TERMS with + or - between; TERM: ATOMS with * or / between");
         for (String sign : new String[] {"+", "-", "*", "/"}) {
             goesOn(LAW, "y:1" + sign, "qhlmnp" + DIGITS, "[ ");
